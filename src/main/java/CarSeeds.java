@@ -348,10 +348,7 @@ public final class CarSeeds {
             cameIn[car] = BAD;
             goneIn[car] = BAD;
             settledIn[car] = BAD;
-            // A car of this number may have stood at stops before a state came back.
-            for (int stop = 0; stop < MOST_STOPS; stop++) {
-                stood[car * MOST_STOPS + stop] = 0;
-            }
+            // No car beyond size has ever stood at a stop: copyFrom brings that back too.
             draw(seed, car);
             return car;
         }
@@ -560,8 +557,10 @@ public final class CarSeeds {
             for (int lane = 0; lane < lanes; lane++) {
                 letIn(lane);
             }
-            if (lanes > 1) {
-                changeLanes();
+            for (int car = 0; car < cars.size; car++) {
+                if (cars.state[car] == ON_ROAD && now.step - cars.settledIn[car] > CHANGE_PAUSE) {
+                    lookAround(car);
+                }
             }
             for (int lane = 0; lane < lanes; lane++) {
                 makeSpeeds(lane);
@@ -624,14 +623,6 @@ public final class CarSeeds {
         private boolean hasRoom(int lane, int carLength) {
             int last = rows.carAt(lane, rows.sizes[lane] - 1);
             return last == BAD || cars.rear(last) >= carLength + KEPT_SPACE;
-        }
-
-        private void changeLanes() {
-            for (int car = 0; car < cars.size; car++) {
-                if (cars.state[car] == ON_ROAD && now.step - cars.settledIn[car] > CHANGE_PAUSE) {
-                    lookAround(car);
-                }
-            }
         }
 
         private void lookAround(int car) {

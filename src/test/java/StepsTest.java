@@ -146,6 +146,13 @@ public final class StepsTest {
             boolean closed = step == 3 || step == 4;
             due("closed in step " + step, x.gap(0), closed ? 50_000 - x.told(0, 2) : FREE);
         }
+        CarSeeds near = road(1);
+        near.come(0, 0);
+        near.run(1);
+        near.close(0, 587, 0, EVER);
+        due("beyond a closed place", near.gap(0), FREE);
+        near.close(0, 588, 0, EVER);
+        due("at a closed place", near.gap(0), 0);
         CarSeeds atOnce = road(1);
         atOnce.close(0, 400 + 200 + 57, 0, 1);
         atOnce.come(0, 0);
