@@ -138,8 +138,10 @@ final class PlainRoad {
         int[] speeds = new int[cars.size()];
         for (int i = 0; i < cars.size(); i++) {
             Car car = cars.get(i);
-            int faster = step % car.delay == 0 ? car.speed + 6 : car.speed;
-            speeds[i] = Math.min(Math.min(allowed(gap(car, car.lane)), car.wish), faster);
+            if (car.state == 1) {
+                int faster = step % car.delay == 0 ? car.speed + 6 : car.speed;
+                speeds[i] = Math.min(Math.min(allowed(gap(car, car.lane)), car.wish), faster);
+            }
         }
         for (int i = 0; i < cars.size(); i++) {
             if (cars.get(i).state == 1) {
@@ -155,8 +157,8 @@ final class PlainRoad {
         }
         step++;
         for (Car car : cars) {
-            Car leader = before(car.lane, car.front);
-            if (car.state == 1 && leader != null && car.speed > leader.speed
+            Car leader = car.state == 1 ? before(car.lane, car.front) : null;
+            if (leader != null && car.speed > leader.speed
                     && leader.rear() - car.front < 5 * car.speed) {
                 many[0]++;
             }
@@ -181,8 +183,8 @@ final class PlainRoad {
     }
 
     private void change(Car car) {
-        int own = gap(car, car.lane);
         boolean rested = car.came < step - 30 && (car.changed == -1 || car.changed < step - 30);
+        int own = rested ? gap(car, car.lane) : 0;
         if (!rested || allowed(own) >= car.wish) {
             return;
         }
@@ -239,6 +241,46 @@ final class PlainRoad {
             }
         }
         return true;
+    }
+
+    /** The answers to all that can be asked, in the order of a Story's questions. */
+    int[] everything() {
+        List<Integer> all = new ArrayList<>();
+        int[] states = new int[3];
+        int[] waiting = new int[3];
+        int times = 0;
+        for (Car car : cars) {
+            states[car.state]++;
+            waiting[car.lane] += car.state == 0 ? 1 : 0;
+            times += car.state == 2 ? car.gone - car.came : 0;
+        }
+        addAll(all, cars.size(), states[1], states[2], step, lights.size(), closed.size(), stops.size(),
+                lines.size(), lanes, length);
+        for (int i = 0; i < 60; i++) {
+            if (i < cars.size()) {
+                Car car = cars.get(i);
+                addAll(all, car.state, car.lane, car.front, car.speed, car.came, car.gone, car.length, car.wish,
+                        car.delay, car.state == 1 ? gap(car, car.lane) : -1);
+            } else {
+                addAll(all, -1, -1, -1, -1, -1, -1, -1, -1, -1, -1);
+            }
+        }
+        for (int line = 0; line < 4; line++) {
+            for (int lane = 0; lane < 3; lane++) {
+                all.add(line < lines.size() && lane < lanes ? counted[line][lane] : -1);
+            }
+        }
+        for (int i = 0; i < 3; i++) {
+            addAll(all, many[i], i < lanes ? waiting[i] : -1);
+        }
+        addAll(all, times, ordered() ? 1 : 0);
+        return all.stream().mapToInt(Integer::intValue).toArray();
+    }
+
+    private static void addAll(List<Integer> all, int... more) {
+        for (int one : more) {
+            all.add(one);
+        }
     }
 
     Kept keep() {
