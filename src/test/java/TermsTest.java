@@ -18,6 +18,7 @@ public final class TermsTest {
         lanesAre1To3BoundSo();
         lengthIs1000To100000BoundSo();
         carsAre60AtMost();
+        carsAre60AtMostOnTheRoad();
         carsWaitThenAreOnTheRoadThenGone();
         drawsTakeTheLowest31Bits();
         drawsReachTheirEnds();
@@ -116,6 +117,28 @@ public final class TermsTest {
         due("60 cars: or a bus", x.come(2, 1), BAD);
         due("60 cars: there is no such", x.told(60, 0), BAD);
         due("60 cars: there are", x.count(0), 60);
+    }
+
+    /** All 60 at once on the road in a lane, and then gone. */
+    private static void carsAre60AtMostOnTheRoad() {
+        Tried x = new Tried(0L, 1, 100_000);
+        x.close(0, 90_000, 0, 5_000);
+        for (int car = 0; car < 60; car++) {
+            x.come(0, 0);
+        }
+        for (int i = 0; i < 5; i++) {
+            x.run(1_000);
+        }
+        due("60 on the road", x.count(1), 60);
+        due("60 on the road, none waits", x.waiting(0), 0);
+        for (int car = 1; car < 60; car++) {
+            due("60 on the road, front of " + car, x.told(car, 2),
+                    x.told(car - 1, 2) - x.drawn(car - 1, 0) - REST);
+        }
+        for (int i = 0; i < 5; i++) {
+            x.run(1_000);
+        }
+        due("60 gone", x.count(2), 60);
     }
 
     /** "each WAITS for its lane, then is on the road, then GONE" */
